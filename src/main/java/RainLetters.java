@@ -558,7 +558,7 @@ public final class RainLetters {
         final int[] lengths = new int[GUTTERS];
 
         Finds() {
-            Arrays.fill(lengths, NONE);
+            clear();
         }
 
         void clear() {

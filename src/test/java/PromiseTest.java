@@ -385,6 +385,10 @@ public final class PromiseTest {
         due(13, "a at 5: 1 turned, or b led past", few(w, 5, "a", 0), 1);
         due(13, "which", w.fewTurns(5, 1), 2);
         due(13, "1 into 3 or 4, or out", w.fewTurns(5, 2), 3);
+        RainLetters u = fall(fall(lay("g1,g5,g5,g-,g-,g-"), 0, "a"), 2, "b");
+        due(13, "b at 5: a led past by 0 or by 1", few(u, 5, "b", 0), 1);
+        due(13, "the least bits", u.fewTurns(5, 1), 1);
+        due(13, "each of both into 3 or 4, or out", u.fewTurns(5, 2), 6);
         RainLetters v = fall(lay("g-,b-,g-,g-,g-,b-"), 0, "abcd");
         due(13, "abc at 5: 0 into the bowl", few(v, 5, "abc", 0), 1);
         due(13, "ab at 5: through both", few(v, 5, "ab", 1), 3);
@@ -601,18 +605,18 @@ public final class PromiseTest {
         due(21, "image() without a street", new RainLetters().image(), STATE);
         due(22, "restore() without an image", lay(OPEN).restore(), STATE);
         due(22, "restore() without a street", new RainLetters().restore(), STATE);
-        RainLetters x = fall(fall(fall(lay(OPEN), 0, "ab"), 1, "cd"), 4, "ab");
+        RainLetters x = fall(fall(fall(lay(OPEN), 0, "ab"), 1, "cd"), 4, "abc");
         found(x, 0, "ab");
         x.turn(3, 5);
-        due(21, "image()", x.image(), 6);
+        due(21, "image()", x.image(), 7);
         long digest = x.digest();
         x.dry();
         x.turn(3, NONE);
-        x.turn(0, 1);
         fall(fall(x, 1, "ee"), 0, "ccc");
+        x.turn(0, 1);
         found(x, 0, "d");
         found(x, 1, "");
-        due(22, "restore()", x.restore(), 6);
+        due(22, "restore()", x.restore(), 7);
         due(22, "digest()", x.digest(), digest);
         dueWord(22, x, 0, "ab");
         dueWord(22, x, 1, "c");
@@ -620,10 +624,10 @@ public final class PromiseTest {
         due(22, "about(1, 3)", x.about(1, 3), 3);
         due(22, "count(6)", x.count(6), 1);
         due(22, "kindOf(0): g, s", x.kindOf(0), 1 | 4);
-        due(22, "the dam goes on: the third", x.drop(4, 2), 4);
+        due(22, "the dam goes on: the fourth", x.drop(4, 0), NONE);
         due(22, "the bowl goes on", x.drop(1, 0), 1);
         dueWord(22, x, 1, "cd");
-        due(22, "restore() again", x.restore(), 6);
+        due(22, "restore() again", x.restore(), 7);
         dueWord(22, x, 1, "c");
         x.dry();
         due(21, "image(): the latest", x.image(), 0);
@@ -659,6 +663,7 @@ public final class PromiseTest {
         for (int what = 0; what < want.length; what++) {
             due(23, "count(" + what + ")", x.count(what), want[what]);
         }
+        due(23, "count(5): all are bowls", fall(lay("b1,b2,b3,b4,b5,b-"), 0, "abcdea").count(5), 6);
         for (int bad : new int[] {-1, 11, LEAST, MOST}) {
             due(23, "count(" + bad + ")", x.count(bad), OUTSIDE);
         }
