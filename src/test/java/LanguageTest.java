@@ -112,7 +112,7 @@ public final class LanguageTest {
         return bean.getThreadAllocatedBytes(Thread.currentThread().getId());
     }
 
-    /** The dearest calls, as many as an object may be asked. */
+    /** The dearest calls, near as many as an object may be asked. */
     private static long dearRun() {
         RainLetters x = new RainLetters();
         for (char sign : "d1,b2,s3,t4,d5,b-".toCharArray()) {
@@ -139,7 +139,7 @@ public final class LanguageTest {
         long before = bytesSoFar();
         dearRun();
         long taken = bytesSoFar() - before;
-        holds(12, "512 dear calls take " + taken + " bytes", taken < MOST_BYTES_OF_A_RUN);
+        holds(12, "a run of dear calls takes " + taken + " bytes", taken < MOST_BYTES_OF_A_RUN);
     }
 
     public static void main(String[] args) throws IOException {
