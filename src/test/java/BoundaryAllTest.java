@@ -48,7 +48,8 @@ public final class BoundaryAllTest extends Boundary {
         sentence("STATE: none was kept, or there is another STREET since.");
         refuses("restore() without a street", RainLetters::new, x -> x.restore(), STATE);
         refuses("restore() of a new street", () -> lay(PLAIN), x -> x.restore(), STATE);
-        refuses("restore() with drops", () -> fall(lay(PLAIN), 0, "abc"), x -> x.restore(), STATE);
+        refuses("restore() with drops, a word found, a page", () -> write(find(fall(lay(PLAIN), 0, "abc"), 0, "ab"), "a"),
+            x -> x.restore(), STATE);
         RainLetters x = new RainLetters();
         due("a refused image() keeps none", x.image(), STATE);
         write(x, PLAIN).street();
@@ -116,6 +117,21 @@ public final class BoundaryAllTest extends Boundary {
         due("rain(11, 1)", x.rain(11, 1), 4);
         due("count(6)", x.count(6), 2);
         due("the 13th", x.drop(0, 0), FULL);
+    }
+
+    private static void p22OfEachGutter() {
+        sentence("An IMAGE keeps where GUTTERS flow, THE RAIN, what is kept, came ahead, is OUT, FOUND.");
+        for (int gutter = 0; gutter < 6; gutter++) {
+            RainLetters x = find(fall(lay(PLAIN), gutter, "ab"), gutter, "ab");
+            x.image();
+            x.dry();
+            find(fall(x, gutter, "cd"), gutter, "cd");
+            due("restore()", x.restore(), 2);
+            dueWord(x, gutter, "ab");
+            due("kindOf(" + gutter + "): ab is found, by g, s", x.kindOf(gutter), 1 | 4);
+            due("letterOf(0)", x.letterOf(0), 1);
+            due("letterOf(1)", x.letterOf(1), 2);
+        }
     }
 
     private static void p22TheDamGoesOn() {

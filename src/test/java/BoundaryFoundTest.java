@@ -149,7 +149,11 @@ public final class BoundaryFoundTest extends Boundary {
     private static void p19Drop() {
         sentence("UNKNOWN: drop (of THE RAIN).");
         for (int size : new int[] {0, 1, 11, 12}) {
-            Maker maker = () -> find(fall(lay(PLAIN), 0, TWELVE.substring(0, size)), 1, "");
+            Maker maker = () -> {
+                RainLetters x = find(lay(PLAIN), 1, "");
+                x.image();
+                return write(fall(x, 0, TWELVE.substring(0, size)), "a");
+            };
             for (int bad : new int[] {-1, size, size + 1, LEAST, MOST}) {
                 refuses("letterOf(" + bad + ") of " + size, maker, x -> x.letterOf(bad), UNKNOWN);
             }
@@ -225,7 +229,7 @@ public final class BoundaryFoundTest extends Boundary {
 
     private static void p20NoStreet() {
         sentence("STATE: no STREET.");
-        refuses("mornings(1, 0, 0)", RainLetters::new, x -> x.mornings(1, 0, 0), STATE);
+        refuses("mornings(1, 0, 0)", () -> page("ab"), x -> x.mornings(1, 0, 0), STATE);
         refuses("mornings(40, MOST, 1)", RainLetters::new, x -> x.mornings(40, MOST, 1), STATE);
         refuses("times without a street", RainLetters::new, x -> x.mornings(0, 0, 0), OUTSIDE);
         refuses("times without a street", RainLetters::new, x -> x.mornings(41, 0, 0), OUTSIDE);

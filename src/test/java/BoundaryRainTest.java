@@ -2,8 +2,11 @@ import java.io.IOException;
 
 /** The boundaries of promises 9 to 12, sentence by sentence: drops, the rain, dried and turned. */
 public final class BoundaryRainTest extends Boundary {
+    /** So many drops, an image of none, a word found, a letter on the page. */
     private static RainLetters fallen(int drops) {
-        return fall(lay(PLAIN), 0, TWELVE.substring(0, drops));
+        RainLetters x = find(lay(PLAIN), 5, "");
+        x.image();
+        return write(fall(x, 0, TWELVE.substring(0, drops)), "a");
     }
 
     /** Drops into one gutter, with the answer to each: one sign is a gutter, '.' is NONE. */
@@ -219,7 +222,7 @@ public final class BoundaryRainTest extends Boundary {
     private static void p11HowManyHadFallen() {
         sentence("DRIED: how many DROPS had fallen.");
         for (int size : new int[] {0, 1, 11, 12}) {
-            RainLetters x = fallen(size);
+            RainLetters x = fall(lay(PLAIN), 0, TWELVE.substring(0, size));
             due("dry() of " + size, x.dry(), size);
             due("dry() again", x.dry(), 0);
             due("the digest is that of a new street", x.digest(), lay(PLAIN).digest());

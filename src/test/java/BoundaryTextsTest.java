@@ -9,7 +9,7 @@ public final class BoundaryTextsTest extends Boundary {
     private static void p1WithoutStreet() {
         sentence("No STREET.");
         sentence("At first there is no STREET.");
-        Maker fresh = RainLetters::new;
+        Maker fresh = () -> page("abx");
         refuses("street()", fresh, x -> x.street(), STATE);
         refuses("about(0, 0)", fresh, x -> x.about(0, 0), UNKNOWN);
         refuses("as(0, 0)", fresh, x -> x.as(0, 0), UNKNOWN);

@@ -2,9 +2,11 @@ import java.io.IOException;
 
 /** The boundaries of promises 13 to 15, sentence by sentence: few turns, orders, the best drop. */
 public final class BoundaryWouldBeTest extends Boundary {
-    /** A street on which the word "ab" comes out of 0 as it is, and the searches that were done. */
+    /** Where the word "ab" comes out of 0 as it is, and so many searches were done. */
     private static RainLetters sought(int fewTurns, int orders) {
-        RainLetters x = write(fall(lay(PLAIN), 0, "ab"), "ab");
+        RainLetters x = find(lay(PLAIN), 0, "a");
+        x.image();
+        write(fall(x, 0, "ab"), "ab");
         for (int done = 0; done < fewTurns; done++) {
             x.fewTurns(0, 0);
         }
@@ -193,11 +195,17 @@ public final class BoundaryWouldBeTest extends Boundary {
         due("orders(5)", fall(lay(PLAIN), 5, "ab").orders(5), 2);
     }
 
+    private static RainLetters chained() {
+        RainLetters x = find(lay(CHAIN), 5, "a");
+        x.image();
+        return write(fall(x, 0, "ab"), "ab");
+    }
+
     private static void p14ItDoesNotFlowOut() {
         sentence("STATE: it does not flow OUT");
         for (int at = 0; at < 5; at++) {
             int gutter = at;
-            refuses("orders(" + gutter + ") of a chain", () -> fall(lay(CHAIN), 0, "ab"), x -> x.orders(gutter), STATE);
+            refuses("orders(" + gutter + ") of a chain", () -> chained(), x -> x.orders(gutter), STATE);
         }
         RainLetters x = fall(lay(CHAIN), 0, "ab");
         due("orders(5) of a chain", x.orders(5), 2);
@@ -264,6 +272,13 @@ public final class BoundaryWouldBeTest extends Boundary {
         dueOrders("b-,g-,g-,g-,g-,g-", 0, "ab", 2);
         dueOrders("t-,g-,g-,g-,g-,g-", 0, "aeaeae", 1);
         dueOrders("d-,g-,g-,g-,g-,g-", 0, "ab", 2);
+        dueOrders(PLAIN, 0, "eeeeee", 1);
+        dueOrders(PLAIN, 0, "eeeeed", 6);
+        for (String two : new String[] {"ab", "bc", "cd", "de", "ae"}) {
+            dueOrders("b-,g-,g-,g-,g-,g-", 0, two, 2);
+        }
+        // The dam lets e, ee or b through, and the bowl nothing, e or nothing.
+        due("words of unlike lengths", fall(lay("d1,b-,g-,g-,g-,g-"), 0, "eeb").orders(1), 2);
         RainLetters x = fall(fall(lay(PLAIN), 0, "abc"), 1, "de");
         due("orders(0): the others don't matter", x.orders(0), 6);
         due("orders(1)", x.orders(1), 2);
@@ -289,7 +304,7 @@ public final class BoundaryWouldBeTest extends Boundary {
         sentence("STATE: no STREET");
         for (int at = 0; at < 5; at++) {
             int letter = at;
-            refuses("bestDrop(" + letter + ")", RainLetters::new, x -> x.bestDrop(letter), STATE);
+            refuses("bestDrop(" + letter + ")", () -> page("ab"), x -> x.bestDrop(letter), STATE);
             due("bestDrop(" + letter + ")", lay(PLAIN).bestDrop(letter), 0);
         }
     }

@@ -72,22 +72,24 @@ abstract class Boundary {
 
     /** The answer is due, and all that comes then is as with an object that was never asked. */
     static void asks(String name, Maker maker, Call call, int want) {
-        RainLetters asked = maker.make();
-        due(name, call.on(asked), want);
-        due(name + ", once more", call.on(asked), want);
-        List<Long> got = goOn(asked);
-        List<Long> due = goOn(maker.make());
+        RainLetters dropsNext = maker.make();
+        RainLetters restoresNext = maker.make();
+        due(name, call.on(dropsNext), want);
+        due(name + ", once more", call.on(dropsNext), want);
+        due(name, call.on(restoresNext), want);
+        dueAll(name, goOn(dropsNext), goOn(maker.make()));
+        dueAll(name, goBack(restoresNext), goBack(maker.make()));
+    }
+
+    private static void dueAll(String name, List<Long> got, List<Long> due) {
         for (int i = 0; i < due.size(); i++) {
             due(name + " changed something: answer " + i + " behind it", got.get(i), due.get(i));
         }
     }
 
-    /** The answers to calls that tell all there is, and what is held inside: images, and what came ahead. */
+    /** The answers to calls that tell all there is, and then what is held inside, such as what came ahead. */
     private static List<Long> goOn(RainLetters x) {
         List<Long> told = new ArrayList<>();
-        tellAll(x, told);
-        dropAll(x, told);
-        told.add((long) x.restore());
         tellAll(x, told);
         dropAll(x, told);
         told.add((long) x.dry());
@@ -99,8 +101,17 @@ abstract class Boundary {
         told.add((long) x.forget());
         told.add((long) x.blank());
         told.add((long) write(x, OPEN).street());
+        tellAll(x, told);
+        return told;
+    }
+
+    /** The same from the image; no other call stands ahead of it, as one that is refused might undo it, too. */
+    private static List<Long> goBack(RainLetters x) {
+        List<Long> told = new ArrayList<>();
+        told.add(x.digest());
         told.add((long) x.restore());
         tellAll(x, told);
+        dropAll(x, told);
         return told;
     }
 
@@ -174,11 +185,11 @@ abstract class Boundary {
         return x;
     }
 
-    /** As many drops as may fall, with an image of when there was one less. */
+    /** In the midst of all, with as many drops as may fall, and an image of when there was one less. */
     static RainLetters soaked() {
-        RainLetters x = fall(lay("d-,b2,s-,t5,g-,b-"), 0, "abacabacaba");
+        RainLetters x = find(fall(lay("d-,b2,s-,t5,g-,b-"), 0, "abacabacaba"), 0, "abab");
         x.image();
-        return fall(x, 1, "c");
+        return write(fall(x, 1, "c"), "ab");
     }
 
     static long mixed(long... numbers) {
