@@ -16,6 +16,7 @@ public final class RainLetters {
     private static final int MIXED_DROPS = 6;
     private static final int WORD_BITS_ROW = 977;
     private static final int MOST_TIMES = 40, MORNING_DROPS = 5;
+    private static final int SEED_BITS = 0x7fffffff;
     private static final int ABOUTS = 6, COUNTS = 11;
 
     private final Page page = new Page();
@@ -403,7 +404,7 @@ public final class RainLetters {
 
     // The wrapping product has the same low 31 bits as the whole one.
     private static int nextSeed(int seed) {
-        return (1103515245 * seed + 12345) & Integer.MAX_VALUE;
+        return (1103515245 * seed + 12345) & SEED_BITS;
     }
 
     /** Tries every way to flow, but for those that turn more gutters than one that was good. */

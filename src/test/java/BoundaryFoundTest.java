@@ -168,6 +168,17 @@ public final class BoundaryFoundTest extends Boundary {
         due("letterOf(0), dried", x.letterOf(0), UNKNOWN);
     }
 
+    private static void p19ByHowItFlowsNow() {
+        sentence("so that all that is FOUND would be so, THE RAIN having fallen: as bits. LETTER of a DROP");
+        RainLetters x = find(fall(lay(PLAIN), 0, "a"), 0, "a");
+        x.turn(0, 5);
+        due("it does not flow OUT now", x.letterOf(0), 0);
+        find(x, 5, "b");
+        find(x, 0, "");
+        due("into 5", x.letterOf(0), 2);
+        due("rain(0, 1): its letter is what it was", x.rain(0, 1), 0);
+    }
+
     private static void p19NoneToAll() {
         sentence("LETTER of a DROP: which it could have had: as bits.");
         for (int letter = 0; letter < 5; letter++) {

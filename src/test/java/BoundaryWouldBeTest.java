@@ -350,6 +350,17 @@ public final class BoundaryWouldBeTest extends Boundary {
         due("but what is the same", y.bestDrop(1), 2);
     }
 
+    private static void p15FromADriedStreet() {
+        sentence("(As it would be, from a DRIED STREET, all THE RAIN falling again in its order:)");
+        RainLetters x = fall(lay("g-,s-,g-,g-,g-,g-"), 0, "a");
+        due("it ran OUT", x.bestDrop(0), 0);
+        x.turn(0, 1);
+        due("it would have come to the sieve", x.bestDrop(0), 2);
+        due("another", x.bestDrop(1), 0);
+        dueWord(x, 0, "a");
+        due("about(1, 2): nothing runs by it", x.about(1, 2), 0);
+    }
+
     public static void main(String[] args) throws IOException, ReflectiveOperationException {
         run(BoundaryWouldBeTest.class, 13, 15);
     }

@@ -20,6 +20,13 @@ public final class LanguageTest {
         "int kindOf(int)", "int letterOf(int)", "int mornings(int,int,int)", "int image()", "int restore()",
         "int count(int)", "long digest()"));
     private static final Set<String> CONSTANTS = Set.of("NONE", "UNKNOWN", "OUTSIDE", "STATE", "FULL");
+    private static final Set<String> LIBRARY = Set.of(
+        "String", "StringBuilder", "ArrayList", "List", "Integer", "Long", "Math", "System", "Arrays");
+    private static final Set<String> TEXT_AND_LIST_CALLS = Set.of(
+        "length", "charAt", "isEmpty", "equals", "indexOf", "substring", "toCharArray", "append", "setCharAt",
+        "setLength", "deleteCharAt", "reverse", "add", "get", "set", "remove", "size", "clear", "clone");
+    private static final Set<String> STATIC_CALLS = Set.of(
+        "System.arraycopy", "Arrays.copyOf", "Arrays.copyOfRange", "Arrays.fill", "List.of");
     private static final Path SOURCE = Path.of("src/main/java/RainLetters.java");
     private static final long MOST_BYTES_OF_A_RUN = 1_000_000;
 
@@ -93,8 +100,32 @@ public final class LanguageTest {
         return fields;
     }
 
+    /** What is named behind a point is a call of the library's list, a call of an own method, or an own field. */
+    private static void library(String text) {
+        Matcher ofClasses = Pattern.compile("\\b([A-Z]\\w*[a-z]\\w*)\\.(\\w+)(\\s*\\()?").matcher(text);
+        while (ofClasses.find()) {
+            String owner = ofClasses.group(1);
+            String name = owner + "." + ofClasses.group(2);
+            boolean counts = owner.equals("Integer") || owner.equals("Long") || owner.equals("Math");
+            holds(4, "the source uses " + name, !LIBRARY.contains(owner)
+                || ofClasses.group(3) != null && (counts || STATIC_CALLS.contains(name)));
+        }
+        Set<String> own = new TreeSet<>();
+        for (Class<?> inside : RainLetters.class.getDeclaredClasses()) {
+            for (Method method : inside.getDeclaredMethods()) {
+                own.add(method.getName());
+            }
+        }
+        Matcher calls = Pattern.compile("\\b[a-z]\\w*(?:\\[[^\\]]*\\])*\\.(\\w+)\\s*\\(").matcher(text);
+        while (calls.find()) {
+            String name = calls.group(1);
+            holds(4, "the source calls " + name, own.contains(name) || TEXT_AND_LIST_CALLS.contains(name));
+        }
+    }
+
     private static void source() throws IOException {
         String text = Files.readString(SOURCE).replaceAll("(?s)/\\*.*?\\*/", "").replaceAll("//[^\n]*", "");
+        library(text.replaceAll("import [^;]+;", ""));
         Matcher words = Pattern.compile("\\b(throw|throws|try|catch|synchronized|assert|package|Object|System\\."
             + "(?!arraycopy)\\w+|Random|Thread|\\w+Exact|hashCode|toString|protected)\\b|->|::").matcher(text);
         while (words.find()) {
